@@ -671,22 +671,20 @@ public final class GrainInn {
             return hasGuest(guest) ? loves[guest] : 0;
         }
 
-        /** How many couples of one of a set and one of another one quarrel. */
         int strifeOf(int some, int others) {
-            int sum = 0;
-            for (int g = 0; g < quarrels.length; g++) {
-                if (isIn(some, g)) {
-                    sum += Integer.bitCount(quarrels[g] & others);
-                }
-            }
-            return sum;
+            return couplesOf(quarrels, some, others);
         }
 
         int joyOf(int some, int others) {
+            return couplesOf(loves, some, others);
+        }
+
+        /** Of one of some and one of the others; who are in both make a couple twice, once each way. */
+        private static int couplesOf(int[] bits, int some, int others) {
             int sum = 0;
-            for (int g = 0; g < loves.length; g++) {
-                if (isIn(some, g)) {
-                    sum += Integer.bitCount(loves[g] & others);
+            for (int g = 0; g < bits.length; g++) {
+                if ((some >> g & 1) != 0) {
+                    sum += Integer.bitCount(bits[g] & others);
                 }
             }
             return sum;
@@ -1260,16 +1258,14 @@ public final class GrainInn {
         }
 
         private void payAll(int who, int ghosts, int price) {
+            int payer = NONE;
             for (int g = 0; g < GUESTS_MOST; g++) {
                 if (isIn(who, g)) {
                     paid[g] += price;
+                    payer = payer == NONE ? g : payer;
                 }
             }
-            int payer = Integer.numberOfTrailingZeros(who);
-            if (payer >= GUESTS_MOST) {
-                return;
-            }
-            for (int g = 0; g < GUESTS_MOST; g++) {
+            for (int g = 0; g < GUESTS_MOST && payer != NONE; g++) {
                 if (isIn(ghosts, g)) {
                     paid[payer] += price;
                     debts[GUESTS_MOST * payer + g] += g == payer ? 0 : price;

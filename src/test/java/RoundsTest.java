@@ -3,6 +3,7 @@ final class RoundsTest {
     public static void main(String[] args) {
         comes();
         comesMoreThanOnce();
+        comesAtTheSixthSitting();
         comesThatIsNot();
         heard();
         fits();
@@ -51,6 +52,18 @@ final class RoundsTest {
         comesIs(y, 4, 0, 1, 1, 2, 2);
         comesIs(y, 4, 1, 1, -1, -1, 0);
         comesIs(y, 7, 0, 1, 1, 2, 2);
+    }
+
+    private static void comesAtTheSixthSitting() {
+        StringBuilder row = new StringBuilder();
+        for (int word = 0; word < 6; word++) {
+            row.append("sit 1 0;say 0 ").append(word).append(";night;");
+        }
+        GrainInn x = Check.with("table 1 6 0;table 1 6 0;guests 1;", row + "join 0 1;");
+        for (int word = 0; word < 6; word++) {
+            comesIs(x, 19, 0, word, word + 1, word + 1, 1);
+        }
+        whisperIs(x, 19, 5, 6, 0);
     }
 
     private static void comesThatIsNot() {

@@ -6,6 +6,7 @@ final class SeatsTest {
         eachWish();
         wishesOfGuestsWhoAreNotThere();
         shunWithoutPasts();
+        manyWishesOfOne();
         harmGoesBeforePaid();
         ghostsArePaidOnce();
         sixGuests();
@@ -80,6 +81,16 @@ final class SeatsTest {
     private static void shunWithoutPasts() {
         seated(wishing("table 2 1 1;guests 1;", "", "shun 0 3;"), "shun", 0, 0, 1, 1, 0);
         seated(wishing("table 2 1 1;guests 1;", "", "hear 0 3;"), "hear", 0, -1, -1, 0);
+    }
+
+    private static void manyWishesOfOne() {
+        String three = "table 4 1 0;table 4 1 0;table 4 1 0;guests 3;";
+        seated(wishing(three, "", "apart 0 1;apart 0 2;apart 1 2;"), "all apart", 0, 0, 0, 6, 0, 1, 2);
+        seated(wishing(three, "", "apart 2 0;apart 2 1;"), "2 apart", 0, 0, 0, 12, 0, 0, 1);
+        seated(wishing(three, "", "beside 2 0;beside 2 1;"), "all beside", 0, 0, 0, 3, 0, 0, 0);
+        seated(wishing(three, "", "beside 0 1;apart 1 2;shun 0 4;"), "two beside", 0, 0, 0, 6, 0, 0, 1);
+        GrainInn x = wishing(three, "sit 0 0;say 0 4;sit 1 1;say 1 4;sit 2 2;say 2 5;night;", "hear 0 4;shun 1 4;");
+        seated(x, "two tables with the word", 7, 0, 0, 6, 0, 2, 0);
     }
 
     private static void harmGoesBeforePaid() {

@@ -316,6 +316,9 @@ final class StateTest {
         pasts(x, 8, 0, 0, 4);
         pastIs(x, 8, 0, 0, 4, 0, 2);
         pasts(x, 9, 0, 0, 4);
+        GrainInn w = Check.with("table 1 3 0;", "sit 0 0;say 0 1;night;sit 0 1;say 1 2;night;sit 0 2;say 2 3;night;scrub 0;");
+        pastIs(w, 10, 0, 0, 1, 2, 0);
+        pastIs(w, 10, 0, 1, 4, 8, 2);
         GrainInn y = Check.with("table 1 3 0;guests 4;", three + "scrub 0;sit 0 3;");
         pasts(y, 8, 0, 0, 1, 4);
     }

@@ -237,6 +237,7 @@ final class TapeTest {
         Check.fault("love 0 3;", 0, 0, -1);
         Check.fault("love 0 4;", 0, 4, 9);
         Check.fault("love 0 4; ", 0, 4, 10);
+        Check.fault("love 0 4;quarrel 0 1;", 0, 4, 21);
         Check.fault("love 0 4;guests 5;", 0, 0, -1);
         Check.fault("guests 5;love 0 4;guests 4;", 0, 4, 27);
         Check.fault("guests 1;quarrel 1 0;", 0, 4, 21);
@@ -262,6 +263,14 @@ final class TapeTest {
         Check.fault("guests 0 3;", 0, 1, 9);
         Check.fault("guests3;love0 1;", 0, 0, -1);
         Check.fault("loveguests 3;", 0, 1, 0);
+        Check.fault("nightz;", 1, 1, 0);
+        Check.fault("nightaz;", 1, 1, 0);
+        Check.fault("tight;", 1, 1, 0);
+        Check.fault("nighs;", 1, 1, 0);
+        Check.fault("night`;", 1, 1, 5);
+        Check.fault("night{;", 1, 1, 5);
+        Check.fault("say 0 /;", 1, 1, 6);
+        Check.fault("say 0 :;", 1, 1, 6);
         Check.fault("guests 000;", 0, 1, 7);
     }
 
