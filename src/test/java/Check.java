@@ -68,6 +68,24 @@ final class Check {
         due("count(" + sort + ") behind " + text, x.count(sort), fault == 0 ? 1 : 0);
     }
 
+    /** The guests of a table's pasts, the oldest first, and its turn; there are no more of them. */
+    static void row(GrainInn x, int n, int table, int turn, int... guests) {
+        due("pasts of " + table + " at " + n, x.state(0, 0, n, 10 + table), guests.length);
+        due("turn of " + table + " at " + n, x.state(0, 0, n, 20 + table), turn);
+        for (int k = 0; k < guests.length; k++) {
+            due("past " + k + " of " + table + " at " + n, x.past(0, 0, n, table, k, 0), guests[k]);
+        }
+        due("no more pasts of " + table + " at " + n, x.past(0, 0, n, table, guests.length, 0), NONE);
+    }
+
+    /** The deed at which it stops can't be: there is a state before it and none behind it. */
+    static void stops(String inn, String evenings, int want) {
+        GrainInn x = with(inn, evenings);
+        due("stop of " + evenings, x.stop(0, 0), want);
+        due("state at the stop of " + evenings, x.state(0, 0, want, 1) >= 0, true);
+        due("state behind the stop of " + evenings, x.state(0, 0, want + 1, 1), -2);
+    }
+
     static void finish() {
         System.out.println(looked + " answers, " + wrong + " not as due");
         if (wrong != 0 || looked == 0) {

@@ -102,11 +102,7 @@ final class StateTest {
     }
 
     private static void stops(String evenings, int want) {
-        String three = "table 2 4 1;table 2 2 0;table 1 1 0;guests 3;";
-        GrainInn x = Check.with(three, evenings);
-        Check.due("stop of " + evenings, x.stop(0, 0), want);
-        Check.due("state at the stop of " + evenings, x.state(0, 0, want, 2), 0);
-        Check.due("state behind the stop of " + evenings, x.state(0, 0, want + 1, 0), -2);
+        Check.stops("table 2 4 1;table 2 2 0;table 1 1 0;guests 3;", evenings, want);
     }
 
     private static void stopAtWhatCannotBe() {
@@ -259,15 +255,6 @@ final class StateTest {
         Check.due(call + 2, x.past(0, 0, n, table, k, 2), night);
     }
 
-    private static void pasts(GrainInn x, int n, int table, int turn, int... guests) {
-        Check.due("pasts of " + table + " at " + n, x.state(0, 0, n, 10 + table), guests.length);
-        Check.due("turn of " + table + " at " + n, x.state(0, 0, n, 20 + table), turn);
-        for (int k = 0; k < guests.length; k++) {
-            Check.due("past " + k + " of " + table + " at " + n, x.past(0, 0, n, table, k, 0), guests[k]);
-        }
-        Check.due("no more pasts of " + table + " at " + n, x.past(0, 0, n, table, guests.length, 0), -1);
-    }
-
     private static void past() {
         GrainInn x = Check.with(INN, EVENINGS);
         pastIs(x, 8, 0, 0, 5, 32, 0);
@@ -290,37 +277,37 @@ final class StateTest {
 
     private static void nightForgets() {
         GrainInn x = Check.with("table 1 1 0;guests 3;", "sit 0 0;night;sit 0 1;night;sit 0 2;night;");
-        pasts(x, 2, 0, 0, 1);
-        pasts(x, 4, 0, 0, 2);
-        pasts(x, 6, 0, 0, 4);
+        Check.row(x, 2, 0, 0, 1);
+        Check.row(x, 4, 0, 0, 2);
+        Check.row(x, 6, 0, 0, 4);
     }
 
     private static void turnGoesRound() {
         GrainInn x = Check.with("table 1 3 0;guests 6;",
             "sit 0 0;night;sit 0 1;night;sit 0 2;night;sit 0 3;night;sit 0 4;night;");
-        pasts(x, 2, 0, 0, 1);
-        pasts(x, 3, 0, 0, 1);
-        pasts(x, 5, 0, 1, 1, 2);
-        pasts(x, 6, 0, 1, 1, 2, 4);
-        pasts(x, 7, 0, 2, 1, 2, 4);
-        pasts(x, 8, 0, 1, 2, 4, 8);
-        pasts(x, 9, 0, 2, 2, 4, 8);
-        pasts(x, 10, 0, 1, 4, 8, 16);
+        Check.row(x, 2, 0, 0, 1);
+        Check.row(x, 3, 0, 0, 1);
+        Check.row(x, 5, 0, 1, 1, 2);
+        Check.row(x, 6, 0, 1, 1, 2, 4);
+        Check.row(x, 7, 0, 2, 1, 2, 4);
+        Check.row(x, 8, 0, 1, 2, 4, 8);
+        Check.row(x, 9, 0, 2, 2, 4, 8);
+        Check.row(x, 10, 0, 1, 4, 8, 16);
     }
 
     private static void scrub() {
         String three = "sit 0 0;night;sit 0 1;night;sit 0 2;night;";
         GrainInn x = Check.with("table 1 3 0;guests 4;", three + "scrub 0;scrub 0;sit 0 3;");
-        pasts(x, 6, 0, 1, 1, 2, 4);
-        pasts(x, 7, 0, 1, 1, 4);
-        pasts(x, 8, 0, 0, 4);
+        Check.row(x, 6, 0, 1, 1, 2, 4);
+        Check.row(x, 7, 0, 1, 1, 4);
+        Check.row(x, 8, 0, 0, 4);
         pastIs(x, 8, 0, 0, 4, 0, 2);
-        pasts(x, 9, 0, 0, 4);
+        Check.row(x, 9, 0, 0, 4);
         GrainInn w = Check.with("table 1 3 0;", "sit 0 0;say 0 1;night;sit 0 1;say 1 2;night;sit 0 2;say 2 3;night;scrub 0;");
         pastIs(w, 10, 0, 0, 1, 2, 0);
         pastIs(w, 10, 0, 1, 4, 8, 2);
         GrainInn y = Check.with("table 1 3 0;guests 4;", three + "scrub 0;sit 0 3;");
-        pasts(y, 8, 0, 0, 1, 4);
+        Check.row(y, 8, 0, 0, 1, 4);
     }
 
     private static void join() {
@@ -328,19 +315,19 @@ final class StateTest {
         GrainInn x = Check.with("table 2 4 1;table 2 2 0;table 1 1 0;guests 3;",
             row + "join 1 0;split 1 0;join 0 1;scrub 0;split 0 2;scrub 0;");
         Check.due("stop", x.stop(0, 0), 13);
-        pasts(x, 9, 0, 1, 1, 2, 4);
-        pasts(x, 10, 0, 0);
-        pasts(x, 10, 1, 0, 2, 4);
+        Check.row(x, 9, 0, 1, 1, 2, 4);
+        Check.row(x, 10, 0, 0);
+        Check.row(x, 10, 1, 0, 2, 4);
         pastIs(x, 10, 1, 0, 2, 4, 1);
         pastIs(x, 10, 1, 1, 4, 8, 2);
-        pasts(x, 11, 0, 0, 2);
-        pasts(x, 11, 1, 0, 4);
-        pasts(x, 12, 0, 0, 2, 4);
-        pasts(x, 12, 1, 0);
-        pasts(x, 13, 0, 0, 4);
+        Check.row(x, 11, 0, 0, 2);
+        Check.row(x, 11, 1, 0, 4);
+        Check.row(x, 12, 0, 0, 2, 4);
+        Check.row(x, 12, 1, 0);
+        Check.row(x, 13, 0, 0, 4);
         GrainInn y = Check.with("table 2 4 1;table 2 2 0;table 1 1 0;guests 3;", row + "sit 1 0;scrub 0;join 1 0;");
         Check.due("stop of a join to one who sits", y.stop(0, 0), 11);
-        pasts(y, 11, 0, 1, 1, 4);
+        Check.row(y, 11, 0, 1, 1, 4);
     }
 
     private static void joinTurn() {
@@ -349,28 +336,28 @@ final class StateTest {
             five.append("sit 0 ").append(g).append(";night;");
         }
         GrainInn x = Check.with("table 1 6 0;table 1 6 0;guests 7;", five + "sit 1 5;night;sit 1 6;night;join 0 1;");
-        pasts(x, 14, 0, 3, 1, 2, 4, 8, 16);
-        pasts(x, 15, 0, 2, 2, 4, 8, 16, 32, 64);
-        pasts(x, 15, 1, 0);
+        Check.row(x, 14, 0, 3, 1, 2, 4, 8, 16);
+        Check.row(x, 15, 0, 2, 2, 4, 8, 16, 32, 64);
+        Check.row(x, 15, 1, 0);
         GrainInn y = Check.with("table 1 6 0;table 1 6 0;guests 7;", five + "sit 1 5;night;sit 1 6;night;join 1 0;");
-        pasts(y, 15, 1, 0, 64, 1, 2, 4, 8, 16);
-        pasts(y, 15, 0, 0);
+        Check.row(y, 15, 1, 0, 64, 1, 2, 4, 8, 16);
+        Check.row(y, 15, 0, 0);
         GrainInn z = Check.with("table 1 6 0;table 1 1 0;guests 7;", five + "sit 1 5;night;join 1 0;");
-        pasts(z, 13, 1, 0, 16);
+        Check.row(z, 13, 1, 0, 16);
     }
 
     private static void split() {
         GrainInn x = Check.with("table 1 6 0;table 1 6 0;guests 5;",
             "sit 0 0;night;sit 0 1;night;sit 0 2;night;sit 0 3;night;sit 0 4;night;split 0 1;");
-        pasts(x, 10, 0, 3, 1, 2, 4, 8, 16);
-        pasts(x, 11, 1, 0, 1, 2);
-        pasts(x, 11, 0, 0, 4, 8, 16);
+        Check.row(x, 10, 0, 3, 1, 2, 4, 8, 16);
+        Check.row(x, 11, 1, 0, 1, 2);
+        Check.row(x, 11, 0, 0, 4, 8, 16);
     }
 
     private static void splitForgets() {
         GrainInn x = Check.with("table 1 6 0;table 1 1 0;guests 6;",
             "sit 0 0;night;sit 0 1;night;sit 0 2;night;sit 0 3;night;sit 0 4;night;sit 0 5;night;split 0 1;");
-        pasts(x, 13, 1, 0, 4);
-        pasts(x, 13, 0, 0, 8, 16, 32);
+        Check.row(x, 13, 1, 0, 4);
+        Check.row(x, 13, 0, 0, 8, 16, 32);
     }
 }
