@@ -4,9 +4,11 @@ import java.util.Random;
 
 /** Random inns, evenings, wishes and hearings: every call against the plain model, with seeds that are always the same. */
 final class ModelTest {
-    private static final int ROUNDS = 700;
+    private static final int ROUNDS = 900;
 
     private final Random random;
+    /** Every third inn has many seats, high prices, and guests who mostly love or quarrel. */
+    private final boolean wide;
     private GrainInn x;
     private int calls;
     private Model.Inn inn;
@@ -14,6 +16,7 @@ final class ModelTest {
 
     private ModelTest(long seed) {
         random = new Random(seed);
+        wide = seed % 3 == 0;
     }
 
     public static void main(String[] args) {
@@ -82,11 +85,12 @@ final class ModelTest {
         StringBuilder text = new StringBuilder();
         int tables = below(12) == 0 ? 0 : 1 + below(5);
         for (int t = 0; t < tables; t++) {
-            text.append("table ").append(1 + below(4)).append(' ').append(1 + below(6)).append(' ').append(below(5)).append(';');
+            text.append("table ").append(1 + below(wide ? 8 : 4)).append(' ').append(1 + below(6)).append(' ')
+                .append(below(wide ? 10 : 5)).append(';');
         }
         int guests = 1 + below(8);
         text.append("guests ").append(guests).append(';');
-        int couples = guests < 2 ? 0 : below(9);
+        int couples = guests < 2 ? 0 : below(wide ? 22 : 9);
         for (int i = 0; i < couples; i++) {
             int a = below(guests);
             int b = (a + 1 + below(guests - 1)) % guests;
@@ -107,7 +111,7 @@ final class ModelTest {
                 case 0, 1, 2, 3 -> {
                     line.append("sit ").append(below(tables));
                     List<Integer> who = new ArrayList<>();
-                    for (int i = 1 + below(3); i > 0; i--) {
+                    for (int i = 1 + below(wide ? 7 : 3); i > 0; i--) {
                         int g = below(of.guests);
                         if (!who.contains(g)) {
                             who.add(g);
